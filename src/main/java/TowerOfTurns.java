@@ -92,12 +92,9 @@ public final class TowerOfTurns {
         if (!isShelf(s)) {
             return refuse(BAD);
         }
-        if (isShown(s)) {
-            return refuse(OTHER);
-        }
         Row row = rowOn(s);
         if (row == null) {
-            return refuse(NOTHING);
+            return refuse(faultOfRow(s, 0));
         }
         if (!row.has(i)) {
             return refuse(BAD);
@@ -324,15 +321,10 @@ public final class TowerOfTurns {
         if (!isShelf(s) || !isSet(set) || what < 0 || what > 2) {
             return refuse(BAD);
         }
-        if (isShown(s)) {
-            return refuse(OTHER);
-        }
         Row row = rowOn(s);
-        if (row == null) {
-            return refuse(NOTHING);
-        }
-        if (row.cells.length < Integer.bitCount(set)) {
-            return refuse(BAD);
+        int fault = faultOfRow(s, Integer.bitCount(set));
+        if (row == null || fault != 0) {
+            return refuse(fault);
         }
         lineups.letLoadsBe(set, row);
         if (what == 0) {
@@ -594,29 +586,19 @@ public final class TowerOfTurns {
         if (!isShelf(s) || !isLength(n)) {
             return refuse(BAD);
         }
-        if (isShown(s)) {
-            return refuse(OTHER);
-        }
         Row row = rowOn(s);
-        if (row == null) {
-            return refuse(NOTHING);
-        }
-        return row.cells.length < n ? refuse(BAD) : firstWrong(row, n);
+        int fault = faultOfRow(s, n);
+        return row == null || fault != 0 ? refuse(fault) : firstWrong(row, n);
     }
 
     public int breaks(int s, int n) {
         if (!isShelf(s) || !isLength(n)) {
             return refuse(BAD);
         }
-        if (isShown(s)) {
-            return refuse(OTHER);
-        }
         Row row = rowOn(s);
-        if (row == null) {
-            return refuse(NOTHING);
-        }
-        if (row.cells.length < n) {
-            return refuse(BAD);
+        int fault = faultOfRow(s, n);
+        if (row == null || fault != 0) {
+            return refuse(fault);
         }
         return firstWrong(row, n) == NONE ? firstBreak(row, n) : refuse(STUCK);
     }
@@ -750,6 +732,15 @@ public final class TowerOfTurns {
         return s >= 0 && s < rows.length ? rows[s] : null;
     }
 
+    /** Why a shelf doesn't serve as a row of so many elements; 0: it does. */
+    private int faultOfRow(int s, int length) {
+        Row row = rowOn(s);
+        if (row == null) {
+            return isShown(s) ? OTHER : NOTHING;
+        }
+        return row.cells.length < length ? BAD : 0;
+    }
+
     private boolean isShown(int s) {
         return isShelf(s) && pick(shown, s) != NONE;
     }
@@ -854,10 +845,6 @@ public final class TowerOfTurns {
         return p >= 0 && p <= MOST_PEOPLE ? 1 << p : 0;
     }
 
-    private static boolean isMember(int set, int p) {
-        return (set & bit(p)) != 0;
-    }
-
     private static int oneIf(boolean so) {
         return so ? 1 : 0;
     }
@@ -922,7 +909,7 @@ public final class TowerOfTurns {
         }
     }
 
-    /** The people, each by eight facts in the order in which personOf tells them: five traits and what comes of them. */
+    /** The people, each by eight facts in personOf's order: five traits, and three that come of them. */
     private static final class Crowd {
         private final int[] facts = new int[MOST_PEOPLE * FACTS];
         private int count;
@@ -936,7 +923,9 @@ public final class TowerOfTurns {
         }
 
         int fact(int p, int what) {
-            return has(p) && what >= 0 && what < FACTS ? pick(facts, p * FACTS + what) : 0;
+            int i = p * FACTS + what;
+            boolean told = p >= 0 && p < count && what >= 0 && what < FACTS;
+            return told && i >= 0 && i < facts.length ? facts[i] : 0;
         }
 
         void changeTrait(int p, int what, int v) {
@@ -1327,18 +1316,12 @@ public final class TowerOfTurns {
 
         void letStand(int set, int wind) {
             measureSets();
-            fitStanding(set, wind);
+            explore(set, wind, null);
         }
 
         void letLoadsBe(int set, Row loads) {
             measureSets();
-            whole = set;
-            for (int below = set; below >= 0; below--) {
-                if ((below & set) == below) {
-                    put(fits, below, whoBears(below, loads.cell(Integer.bitCount(below))));
-                    countFrom(below);
-                }
-            }
+            explore(set, 0, loads);
         }
 
         int count() {
@@ -1354,7 +1337,7 @@ public final class TowerOfTurns {
             measureSets();
             for (int set = 1; set < bit(crowd.count); set++) {
                 if (Integer.bitCount(set) <= most && heightOf(set) > heightOf(best)) {
-                    fitStanding(set, wind);
+                    explore(set, wind, null);
                     if (count() > 0) {
                         best = set;
                     }
@@ -1376,7 +1359,7 @@ public final class TowerOfTurns {
 
         int feet() {
             int bits = 0;
-            for (int p = 0; p < MOST_PEOPLE; p++) {
+            for (int p = 0; p < crowd.count; p++) {
                 if (leadsOn(0, p)) {
                     bits |= bit(p);
                 }
@@ -1391,12 +1374,12 @@ public final class TowerOfTurns {
         int greatestJoy() {
             int best = whole == 0 ? 0 : NONE;
             for (int below = whole; below > 0; below--) {
-                if ((below & whole) == below) {
+                if (pick(ways, below) > 0) {
                     fillJoys(below);
                 }
             }
-            for (int p = 0; p < MOST_PEOPLE; p++) {
-                if (isMember(pick(fits, 0), p)) {
+            for (int p = 0; p < crowd.count; p++) {
+                if (leadsOn(0, p)) {
                     best = Math.max(best, joyOf(bit(p), p));
                 }
             }
@@ -1405,63 +1388,78 @@ public final class TowerOfTurns {
 
         private void measureSets() {
             for (int set = 1; set < bit(crowd.count); set++) {
-                int mass = 0;
-                int tall = 0;
-                for (int p = 0; p < crowd.count; p++) {
-                    if (isMember(set, p)) {
-                        mass += crowd.fact(p, MASS);
-                        tall += crowd.fact(p, TALLNESS);
-                    }
-                }
-                put(masses, set, mass);
-                put(heights, set, tall);
+                int least = set & -set;
+                int p = Integer.bitCount(least - 1);
+                put(masses, set, pick(masses, set - least) + crowd.fact(p, MASS));
+                put(heights, set, pick(heights, set - least) + crowd.fact(p, TALLNESS));
             }
         }
 
-        private void fitStanding(int set, int wind) {
+        /** Up from nobody through the sets that can be below, then down again to count; loads null: it must stand. */
+        private void explore(int set, int wind, Row loads) {
             whole = set;
+            for (int below = 0; below <= set; below++) {
+                put(ways, below, 0);
+            }
+            put(ways, 0, 1);
+            for (int below = 0; below <= set; below++) {
+                if (pick(ways, below) > 0) {
+                    put(fits, below, loads == null ? whoStands(below, wind) : whoBears(below, loads));
+                    reachFrom(below);
+                }
+            }
             for (int below = set; below >= 0; below--) {
-                if ((below & set) == below) {
-                    put(fits, below, whoStands(below, wind));
+                if (pick(ways, below) > 0) {
                     countFrom(below);
                 }
             }
         }
 
         private int whoStands(int below, int wind) {
+            int rest = whole & ~below;
             int shake = sway(pick(heights, below), wind);
+            int mass = pick(masses, rest);
             int bits = 0;
             for (int p = 0; p < crowd.count; p++) {
-                if (isMember(whole & ~below, p) && loadOf(below, p) <= crowd.fact(p, BEARS)
+                if ((rest >> p & 1) == 1 && mass - crowd.fact(p, MASS) <= crowd.fact(p, BEARS)
                         && shake <= crowd.fact(p, NERVE)) {
-                    bits |= bit(p);
+                    bits |= 1 << p;
                 }
             }
             return bits;
         }
 
-        private int whoBears(int below, long load) {
+        private int whoBears(int below, Row loads) {
+            int rest = whole & ~below;
+            long load = loads.cell(Integer.bitCount(below));
+            int mass = pick(masses, rest);
             int bits = 0;
             for (int p = 0; p < crowd.count; p++) {
-                if (isMember(whole & ~below, p) && loadOf(below, p) == load) {
-                    bits |= bit(p);
+                if ((rest >> p & 1) == 1 && mass - crowd.fact(p, MASS) == load) {
+                    bits |= 1 << p;
                 }
             }
             return bits;
         }
 
-        private int loadOf(int below, int p) {
-            return pick(masses, whole) - pick(masses, below) - crowd.fact(p, MASS);
+        private void reachFrom(int below) {
+            int fit = pick(fits, below);
+            for (int p = 0; p < crowd.count; p++) {
+                if ((fit >> p & 1) == 1) {
+                    put(ways, below | 1 << p, 1);
+                }
+            }
         }
 
         private void countFrom(int below) {
+            int fit = pick(fits, below);
             int count = below == whole ? 1 : 0;
             int last = 0;
             for (int p = 0; p < crowd.count; p++) {
-                if (isMember(pick(fits, below), p)) {
-                    int onto = below | bit(p);
+                if ((fit >> p & 1) == 1) {
+                    int onto = below | 1 << p;
                     count += pick(ways, onto);
-                    last |= onto == whole ? bit(p) : pick(lasts, onto);
+                    last |= onto == whole ? 1 << p : pick(lasts, onto);
                 }
             }
             put(ways, below, count);
@@ -1469,7 +1467,7 @@ public final class TowerOfTurns {
         }
 
         private boolean leadsOn(int below, int p) {
-            return isMember(pick(fits, below), p) && pick(ways, below | bit(p)) > 0;
+            return (pick(fits, below) & bit(p)) != 0 && pick(ways, below | bit(p)) > 0;
         }
 
         private int firstOn(int below) {
@@ -1485,14 +1483,13 @@ public final class TowerOfTurns {
             return pick(joys, below * MOST_PEOPLE + last);
         }
 
-        /** The greatest joy of all from the last one below on, by who he is; NONE: it never stands. */
+        /** By who is last of those below: the greatest joy from him on up. */
         private void fillJoys(int below) {
             for (int last = 0; last < crowd.count; last++) {
-                int best = below == whole ? 0 : NONE;
-                for (int p = 0; p < crowd.count; p++) {
-                    int above = isMember(pick(fits, below), p) ? joyOf(below | bit(p), p) : NONE;
-                    if (above != NONE) {
-                        best = Math.max(best, above + crowd.fondness(last, p));
+                int best = 0;
+                for (int p = 0; p < crowd.count && (below >> last & 1) == 1; p++) {
+                    if (leadsOn(below, p)) {
+                        best = Math.max(best, joyOf(below | bit(p), p) + crowd.fondness(last, p));
                     }
                 }
                 put(joys, below * MOST_PEOPLE + last, best);

@@ -182,6 +182,7 @@ public final class PromisesTest {
         due(-2022, read("wind 5;climb 2; climb 2")); due(1, x.status(2)); due(0, x.status(1)); due(0, x.status(6)); due(1, x.status(12));
         due(-2000, read("")); due(-2003, read("   ")); due(-2000, read(";")); due(-2005, read("down;")); due(-2007, read("down ; ") );
         due(-2005, read("down;;")); due(-2005, read("down down")); due(-2005, read("down 1")); due(-2000, read("downs")); due(-2000, read("dow"));
+        due(-2000, read("downz")); due(-2004, read("down{")); due(-2004, read("down`")); due(-2004, read("wind/")); due(-2004, read("wind:"));
         due(-2000, read("7")); due(-2000, read("Wind 3")); due(-2005, read("wind .3")); due(-2006, read("wind 3.")); due(-2005, read("wind ;"));
         due(-2005, read("wind x")); due(-2004, read("wind")); due(-2005, read("wind ")); due(-2004, read("wind10")); due(-2005, read("wind 0003"));
         due(1, read("wind 003")); due(-2007, read("wind 3 4")); due(-2005, read("most 9")); due(-2005, read("most 0")); due(1, read("most 8"));
@@ -330,6 +331,9 @@ public final class PromisesTest {
         due(NONE, x.fittest()); four(); due(NONE, x.fittest()); x.comesOut(); x.comesOut(); x.comesOut(); x.comesOut();
         due(0, x.fittest()); x.climb(4); x.climb(2); x.climb(0); due(3, x.fittest()); x.tell(1, 3); due(3, x.fittest());
         x.give(3, 2, 7); due(5, x.fittest()); x.give(5, 2, 12); due(1, x.fittest()); due(0, x.status(15));
+        about(32);
+        for (int k = 0; k < 3; k++) x.person(3, 9, 1, 99, 0);
+        x.climb(2); due(0, x.fittest()); x.tell(0, 0); x.climb(1); x.tell(0, 9); due(0, x.fittest()); x.give(2, 1, 1); due(NONE, x.fittest());
 
         about(33);
         due(0, x.ahead(9, 0)); due(0, x.ahead(0, 1)); due(NONE, x.ahead(60, 3));
@@ -402,6 +406,10 @@ public final class PromisesTest {
         about(43);
         x.person(5, 0, 40, 0, 0); x.person(5, 0, 40, 0, 0); x.person(5, 0, 40, 0, 0); due(3, read("climb 0;climb 1;climb 2")); due(NONE, x.lighter());
         due(2, read("down;climb 2")); due(2, x.lighter());
+        about(43);
+        // without anyone it stands by no wind at all but 0
+        for (int k = 0; k < 3; k++) x.person(3, 9, 1, 99, 0);
+        due(3, read("climb 2;climb 1;climb 0")); due(2, x.lighter());
 
         about(44);
         due(BAD, x.shifted(0, 0)); four(); due(1, x.shifted(0, 1)); due(0, x.shifted(0, 3)); due(1, x.shifted(3, 3)); due(1, x.shifted(2, 0)); due(0, x.shifted(3, 0));
@@ -426,6 +434,7 @@ public final class PromisesTest {
         x.set(0, 3, 4); due(3, x.judge(0, 5)); due(NONE, x.judge(0, 3)); x.set(0, 3, 6); due(3, x.judge(0, 5)); x.set(0, 3, -1); due(3, x.judge(0, 5)); x.set(0, 3, 5);
         x.tell(1, 2); due(2, x.judge(0, 5)); x.tell(1, 6); x.climb(0); due(2, x.judge(0, 5)); x.climb(3); due(2, x.judge(0, 5)); x.set(0, 2, 1); due(4, x.judge(0, 5)); x.tell(1, 5); due(3, x.judge(0, 4));
         cells(2, 3, 1L << 32, 0); due(0, x.judge(2, 1)); cells(2, 4, 1, 1); due(1, x.judge(2, 2)); due(2, x.status(1));
+        x.row(3, 0, 40); due(0, x.judge(3, 40)); due(BAD, x.judge(3, 41)); due(STUCK, x.breaks(3, 40)); due(NONE, x.breaks(3, 0));
 
         about(49);
         six(); cells(0, 2, 4, 2, 0, 5, 1); due(4, x.breaks(0, 5)); due(NONE, x.breaks(0, 4)); due(NONE, x.breaks(0, 0)); x.give(2, 2, 0); due(1, x.breaks(0, 5)); x.tell(0, 0); due(4, x.breaks(0, 5));
@@ -458,7 +467,8 @@ public final class PromisesTest {
         // day 1: wind 8, both shake in it and it falls; then number 0 climbs
         for (int k = 0; k < 3; k++) x.person(0, 0, 1, 99, 0);
         x.tell(0, 0); x.climb(1); x.climb(2); due(1, x.drawn(1)); due(0, x.at(0)); due(1, x.status(1)); due(1, x.status(5)); due(1, x.status(4));
-        x.drawn(60); due(61, x.status(4));
+        due(1, x.status(5)); x.seed(1); x.tell(0, 0); x.climb(1); due(1, x.drawn(1)); due(2, x.status(5));
+        x.drawn(60); due(62, x.status(4));
 
         about(54);
         due(1, x.seed(7)); due(7, x.seed(-5)); due(-5, x.seed(Integer.MIN_VALUE)); due(Integer.MIN_VALUE, x.status(7)); x.seed(2); x.person(0, 0, 1, 0, 0); x.drawn(1);
