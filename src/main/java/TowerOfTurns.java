@@ -154,7 +154,7 @@ public final class TowerOfTurns {
         if (rowOn(s) != null || person != NONE && !isUnder(world.crowd.fact(person, KIND), kind)) {
             return refuse(OTHER);
         }
-        return person == NONE ? refuse(NOTHING) : world.crowd.saying(person);
+        return person == NONE ? refuse(NOTHING) : world.crowd.sayingAs(kind, person);
     }
 
     // ---- people, wind and the tape ----
@@ -1002,8 +1002,9 @@ public final class TowerOfTurns {
             }
         }
 
-        int saying(int p) {
-            switch (fact(p, KIND)) {
+        /** The kind told chooses what is said; the facts themselves are reckoned by his own kind. */
+        int sayingAs(int kind, int p) {
+            switch (kind) {
                 case TALL:
                 case STRING:
                     return fact(p, TALLNESS);

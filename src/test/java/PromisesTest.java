@@ -129,8 +129,10 @@ public final class PromisesTest {
         six();
         for (int k = 0; k < 6; k++) x.show(k, k);
         int[] says = {9, 3, 65, 5, 84, 4};
-        for (int k = 0; k < 6; k++) { due(says[k], x.says(k, 0)); due(says[k], x.says(k, k)); }
-        due(5, x.says(3, 1)); due(84, x.says(4, 2));
+        int[] nerves = {9, 12, 4, 20, 8, 30};
+        for (int k = 0; k < 6; k++) { due(says[k], x.says(k, k)); due(nerves[k], x.says(k, 0)); }
+        // taken for a lesser kind he says what that kind says, reckoned by his own
+        due(5, x.says(3, 1)); due(84, x.says(4, 2)); x.give(3, 2, 40); due(40, x.says(3, 0)); x.give(4, 1, 0); due(4, x.says(4, 2));
         due(OTHER, x.says(0, 1)); due(OTHER, x.says(0, 5)); due(OTHER, x.says(1, 3)); due(OTHER, x.says(2, 4));
         due(OTHER, x.says(1, 2)); due(OTHER, x.says(3, 2)); due(OTHER, x.says(4, 1)); due(OTHER, x.says(5, 4));
         due(NOTHING, x.says(6, 0)); x.row(6, 0, 1); due(OTHER, x.says(6, 0));
