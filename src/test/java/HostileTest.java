@@ -7,7 +7,7 @@ public final class HostileTest {
         255, 256, 1 << 20, Integer.MAX_VALUE - 1, Integer.MAX_VALUE};
     private static int calls;
 
-    private static void fill(TowerOfTurns x, int state) {
+    private static void fill(Counted x, int state) {
         if (state == 0) {
             return;
         }
@@ -32,7 +32,7 @@ public final class HostileTest {
         }
     }
 
-    private static void call(TowerOfTurns x, Method m, int[] values) throws ReflectiveOperationException {
+    private static void call(Counted x, Method m, int[] values) throws ReflectiveOperationException {
         Class<?>[] types = m.getParameterTypes();
         Object[] given = new Object[types.length];
         for (int k = 0; k < types.length; k++) {
@@ -44,17 +44,17 @@ public final class HostileTest {
 
     public static void main(String[] args) throws ReflectiveOperationException {
         long drawn = 42;
-        for (Method m : TowerOfTurns.class.getDeclaredMethods()) {
+        for (Method m : Counted.class.getDeclaredMethods()) {
             if (!Modifier.isPublic(m.getModifiers())) {
                 continue;
             }
             for (int state = 0; state < 3; state++) {
                 int n = m.getParameterCount();
                 int all = n > 3 ? 4000 : (int) Math.pow(ODD.length, n);
-                TowerOfTurns x = null;
+                Counted x = null;
                 for (int nth = 0; nth < all; nth++) {
-                    if (nth % 300 == 0) {
-                        x = new TowerOfTurns();
+                    if (nth % 200 == 0) {
+                        x = new Counted();
                         fill(x, state);
                     }
                     int[] values = new int[n];

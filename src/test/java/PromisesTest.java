@@ -4,12 +4,12 @@ public final class PromisesTest {
     private static int wrong;
     private static int promise;
     private static int nth;
-    private static TowerOfTurns x;
+    private static Counted x;
 
     private static void about(int number) {
         promise = number;
         nth = 0;
-        x = new TowerOfTurns();
+        x = new Counted();
     }
 
     private static void due(long want, long got) {
@@ -174,23 +174,38 @@ public final class PromisesTest {
         due(250, x.wipe()); due(1, x.feed(1));
     }
 
+    /** Three people, MOST 2, number 0 in the tower. */
+    private static void threeOfText() {
+        about(14);
+        x.person(0, 1, 12, 50, 9);
+        x.person(1, 4, 14, 40, 12);
+        x.person(5, 7, 9, 12, 30);
+        x.tell(1, 2);
+        x.climb(0);
+    }
+
     private static void texts() {
         about(14);
         due(10, read("person 0 1 12 50 9;person1 4 14 40 12 ; person 5 007 9 12 30;wind 3;most 2;climb 1;climb 2;day 999;down;climb 0"));
         due(0, x.status(6)); due(3, x.status(0)); due(1, x.status(1)); due(3, x.status(2)); due(2, x.status(3)); due(999, x.status(4));
         due(0, x.at(0)); due(7, x.personOf(2, 1)); due(12, x.personOf(2, 3)); due(1, x.personOf(1, 0)); due(0, x.status(12));
+        threeOfText();
         due(1, read("down")); due(0, x.status(1)); due(1, read("  wind9  ")); due(2, read("wind 0;wind 1")); due(1, x.status(2));
         // all of it or nothing
         due(-2022, read("wind 5;climb 2; climb 2")); due(1, x.status(2)); due(0, x.status(1)); due(0, x.status(6)); due(1, x.status(12));
+        about(14);
         due(-2000, read("")); due(-2003, read("   ")); due(-2000, read(";")); due(-2005, read("down;")); due(-2007, read("down ; ") );
         due(-2005, read("down;;")); due(-2005, read("down down")); due(-2005, read("down 1")); due(-2000, read("downs")); due(-2000, read("dow"));
         due(-2000, read("downz")); due(-2004, read("down{")); due(-2004, read("down`")); due(-2004, read("wind/")); due(-2004, read("wind:"));
         due(-2000, read("7")); due(-2000, read("Wind 3")); due(-2005, read("wind .3")); due(-2006, read("wind 3.")); due(-2005, read("wind ;"));
         due(-2005, read("wind x")); due(-2004, read("wind")); due(-2005, read("wind ")); due(-2004, read("wind10")); due(-2005, read("wind 0003"));
+        threeOfText();
         due(1, read("wind 003")); due(-2007, read("wind 3 4")); due(-2005, read("most 9")); due(-2005, read("most 0")); due(1, read("most 8"));
         due(-2004, read("day 1000")); due(1, read("day 0")); due(-2004, read("day -1")); due(-2006, read("climb 3")); due(-2006, read("climb 99999999999"));
         due(-2005, read("climb")); due(-2005, read("climb;")); due(2, read("climb 2;climb 1")); due(-2005, read("most 1")); due(2, read("down;most 1"));
         // what there is no room for: its word, whatever comes behind it
+        threeOfText();
+        x.climb(2); x.climb(1); read("down;most 1");
         due(-2008, read("climb 0;climb 1")); due(-2010, read("climb 0 ; climb")); due(-2008, read("climb 0;climb x")); due(0, x.status(1));
         due(1, read("climb 0")); due(-2012, read("most2;climb 0")); due(-2000, read("climb 9"));
         due(3, read("down;most 3;climb 2")); due(-2006, read("climb 2"));

@@ -9,7 +9,9 @@ import java.util.TreeMap;
 /** Runs of drawn calls (the same every time) on the class and on the model: every answer must be the same. */
 public final class RandomRunsTest {
     private static final int RUNS = 700;
-    private static final int CALLS = 512;
+    private static final int CALLS = Counted.CALLS_LET;
+    private static final int LAST_LOOKS = 25;
+    private static final int LONGEST_STEP = 60;
 
     /** What each argument of a method is about; a method of more weight is called more often. */
     private static final String[] CALLS_BY_NAME = {
@@ -24,14 +26,13 @@ public final class RandomRunsTest {
     };
 
     private final Random random;
-    private final TowerOfTurns real = new TowerOfTurns();
+    private final Counted real = new Counted();
     private final Model model = new Model();
     private final List<String> told = new ArrayList<>();
     private final int crowd;
     private final boolean gentle;
-    private int calls;
     private static final Map<String, Map<Long, Integer>> SEEN = new TreeMap<>();
-    private static final Map<String, Method> REAL = methods(TowerOfTurns.class);
+    private static final Map<String, Method> REAL = methods(Counted.class);
     private static final Map<String, Method> MODEL = methods(Model.class);
 
     private RandomRunsTest(int run) {
@@ -94,7 +95,6 @@ public final class RandomRunsTest {
         long want = invoke(MODEL.get(name), model, args);
         long got = invoke(REAL.get(name), real, args);
         told.add(name + java.util.Arrays.toString(args) + " " + got);
-        calls++;
         SEEN.computeIfAbsent(name, k -> new TreeMap<>()).merge(got < -1000 || got > 9 ? Math.max(got, -2001) : got, 1, Integer::sum);
         if (want != got) {
             for (String line : told) {
@@ -154,7 +154,7 @@ public final class RandomRunsTest {
 
     private void feedAndRead() {
         String text = text();
-        if (text.length() > CALLS - calls - 2) {
+        if (text.length() + 1 > CALLS - LAST_LOOKS - real.callsMade()) {
             return;
         }
         for (char c : text.toCharArray()) {
@@ -264,7 +264,7 @@ public final class RandomRunsTest {
 
     private void run() {
         if (under(4) != 0) begin();
-        while (calls < CALLS - 90) {
+        while (real.callsMade() < CALLS - LAST_LOOKS - LONGEST_STEP) {
             step();
         }
         for (int what = 0; what < 17; what++) {
@@ -279,7 +279,7 @@ public final class RandomRunsTest {
         for (int run = 0; run < RUNS; run++) {
             new RandomRunsTest(run).run();
         }
-        if (args.length > 1) {
+        if (java.util.Arrays.asList(args).contains("seen")) {
             SEEN.forEach((name, answers) -> System.out.println(name + " " + answers));
         }
         System.out.println(RUNS + " drawn runs answered as the model does");
