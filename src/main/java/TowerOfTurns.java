@@ -51,7 +51,8 @@ public final class TowerOfTurns {
     private static final int FACTS = 8;
     private static final int COURSE = 8;
     private static final int[] LEAST_TRAIT = {0, 0, 1, 0, 0};
-    private static final int[] GREATEST_TRAIT = {5, 9, 40, 99, 40};
+    private static final int GREATEST_STRENGTH = 99;
+    private static final int[] GREATEST_TRAIT = {5, 9, 40, GREATEST_STRENGTH, 40};
 
     private static final int WIND = 0;
     private static final int MOST = 1;
@@ -522,7 +523,7 @@ public final class TowerOfTurns {
         int load = world.pile.loadAt(course);
         int kind = world.crowd.fact(person, KIND);
         int a = world.crowd.fact(person, A);
-        for (int strength = 0; mayBe(STRENGTH, strength); strength++) {
+        for (int strength = 0; strength <= GREATEST_STRENGTH; strength++) {
             if (Crowd.bearsBy(kind, a, strength) >= load) {
                 return strength;
             }

@@ -55,7 +55,8 @@ final class ChangeSentences {
         s.sentence(43, "The one in it without whom it STANDS by the greatest GALE, of several the first from the FOOT on; NONE: by none.", """
             lighter()=NONE new six climb(3) lighter()=3 new four lighter()=4 give(0, 2, 0) lighter()=0 give(0, 2, 9) give(0, 1, 3) lighter()=0 give(5, 1, 0) lighter()=0
             give(4, 1, 0) give(0, 1, 50) lighter()=4 give(0, 1, 3) lighter()=NONE
-            new firm3 read"climb 2;climb 0;climb 1"=3 lighter()=2 give(2, 1, 1) lighter()=2 give(0, 1, 0) lighter()=0 give(2, 1, 0) lighter()=NONE""");
+            new firm3 read"climb 2;climb 0;climb 1"=3 lighter()=2 give(2, 1, 1) lighter()=2 give(0, 1, 0) lighter()=0 give(2, 1, 0) lighter()=NONE
+            new strings give(0, 2, 0) give(1, 2, 0) give(2, 2, 0) read"climb 2;climb 1;climb 0"=3 lighter()=2 give(0, 2, 1) lighter()=2     # by WIND 0; then by 1""");
         s.sentence(43, "(NONE isn't refused.)", "lighter()=NONE status(12)=0 status(15)=0");
     }
 

@@ -38,7 +38,7 @@ final class TapeSentences {
             new four give(0, 1, 3)=50 stands()=0 status(1)=4 status(5)=0           # it doesn't fall by that""");
         s.sentence(10, "BAD.", """
             six give(1, 0, 0)=BAD give(1, 0, 41)=BAD give(1, 0, -1)=BAD give(1, 1, -1)=BAD give(1, 1, 100)=BAD give(1, 2, -1)=BAD give(1, 2, 41)=BAD
-            give(1, -1, 5)=BAD give(1, 3, 5)=BAD give(1, MIN, 5)=BAD give(1, MAX, 5)=BAD give(1, 0, MIN)=BAD give(1, 1, MAX)=BAD
+            give(1, -1, 5)=BAD give(1, 3, 5)=BAD give(1, -1, 0)=BAD give(1, -2, 0)=BAD give(1, 3, 0)=BAD give(1, 4, 0)=BAD give(1, MIN, 5)=BAD give(1, MAX, 5)=BAD give(1, 0, MIN)=BAD give(1, 1, MAX)=BAD
             give(-1, 0, 5)=BAD give(6, 0, 5)=BAD give(MIN, 0, 5)=BAD give(MAX, 0, 5)=BAD give(5, 0, 5)=9 give(0, 0, 5)=12
             new give(0, 0, 5)=BAD new eight give(7, 0, 5)=1 give(8, 0, 5)=BAD""");
         s.sentence(11, "WIND (what 0), MOST (1; no fewer than are in THE TOWER), DAY (2) becomes v: what it was.", """
@@ -49,7 +49,7 @@ final class TapeSentences {
         s.sentence(11, "WIND (0 to 9;", "tell(0, -1)=BAD tell(0, 10)=BAD tell(0, 0)=2 tell(0, 9)=0 tell(0, MIN)=BAD tell(0, MAX)=BAD");
         s.sentence(11, "MOST (1 to 8: how many courses;", "tell(1, 0)=BAD tell(1, 9)=BAD tell(1, 1)=5 tell(1, 8)=1 tell(1, -1)=BAD tell(1, MIN)=BAD tell(1, MAX)=BAD");
         s.sentence(11, "DAY (0 to 999;", "tell(2, -1)=BAD tell(2, 1000)=BAD tell(2, 0)=0 tell(2, 999)=0 tell(2, MIN)=BAD tell(2, MAX)=BAD");
-        s.sentence(11, "BAD.", "tell(-1, 1)=BAD tell(3, 1)=BAD tell(MIN, 1)=BAD tell(MAX, 1)=BAD status(2)=2 status(3)=5 status(4)=0 status(12)=4");
+        s.sentence(11, "BAD.", "tell(-1, 1)=BAD tell(3, 1)=BAD tell(-1, 0)=BAD tell(3, 0)=BAD tell(MIN, 1)=BAD tell(MAX, 1)=BAD status(2)=2 status(3)=5 status(4)=0 status(12)=6");
     }
 
     private static void tape(Scenes s) {
@@ -70,6 +70,8 @@ final class TapeSentences {
         s.sentence(14, "TOKENS, each as long as can be: WORDS (a .. z), NUMBERS (digits), the SIGN ;", """
             read"wind3"=1 status(2)=3 read"wind3;day4"=2 status(4)=4 read"person0 1 2 3 4"=1
             new read"winda"=-2000 read"windz 3"=-2000 read"awind 3"=-2000 read"downdown"=-2000 read"w ind 3"=-2000 read"win"=-2000 read"windwind 3"=-2000
+            new read"xown"=-2000 read"dowx"=-2000 read"xind 3"=-2000 read"winx 3"=-2000 read"xost 3"=-2000 read"mosx 3"=-2000 read"xay 3"=-2000 read"dax 3"=-2000
+            new six read"xlimb 0"=-2000 read"climx 0"=-2000 read"xerson 0 0 1 0 0"=-2000 read"persox 0 0 1 0 0"=-2000 read"day a"=-2004 read"day aa"=-2004 read"day ;"=-2004
             new read"down`"=-2004 read"down{"=-2004 read"`down"=-2000 read"{"=-2000 read"DOWN"=-2000 read"dowN"=-2000 read"dow N"=-2000
             new read"wind/"=-2004 read"wind:"=-2004 read"wind 9/"=-2006 read"wind 0:"=-2006 read"wind 3down"=-2006 read"wind 12"=-2005 read"wind 1 2"=-2007
             new read"down<"=-2004 read"down:down"=-2004 read"down,"=-2004 read"wind-1"=-2004 read"wind +1"=-2005 read"wind 1.5"=-2006""");

@@ -73,7 +73,7 @@ final class TruthSentences {
             new person(0, 0, 1, 99, 0) person(0, 0, 1, 99, 0) tell(1, 2) tell(0, 0) climb(0) climb(1) seed(1) drawn(2)=2 status(5)=2 status(4)=2 status(1)=0
             new person(0, 0, 1, 99, 0) person(0, 0, 1, 99, 0) seed(0) climb(0) drawn(1)=0 status(2)=0 status(1)=2""");
         s.sentence(53, "DAYS by draws, n (1 to 60): how often it FELL.", """
-            firm3 drawn(60)=0 status(4)=60 status(1)=3 status(5)=0 drawn(1)=0 status(4)=61 tell(2, 999) drawn(1)=0 status(4)=999 give(0, 1, 1) tell(2, 0) drawn(3)=1 status(5)=1""");
+            firm3 drawn(60)=0 status(4)=60 status(1)=3 status(5)=0 drawn(1)=0 status(4)=61 tell(2, 999) drawn(1)=0 status(4)=999 give(0, 1, 1) tell(2, 0) drawn(3)=1 status(5)=1 drawn(3)=1 status(5)=2 drawn(2)=1 status(5)=3""");
         s.sentence(53, "BAD; STUCK: nobody is there.", """
             drawn(1)=STUCK drawn(60)=STUCK drawn(0)=BAD drawn(61)=BAD drawn(-1)=BAD drawn(MIN)=BAD drawn(MAX)=BAD status(7)=1 status(2)=2
             new firm3 drawn(0)=BAD drawn(61)=BAD drawn(1)=0""");
