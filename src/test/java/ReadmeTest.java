@@ -35,7 +35,8 @@ public final class ReadmeTest {
     }
 
     private static String run(Path home, String command) throws IOException, InterruptedException {
-        Process process = new ProcessBuilder(command.split(" ")).directory(home.toFile()).redirectErrorStream(true).start();
+        Process process = new ProcessBuilder(command.split(" ")).directory(home.toFile())
+            .redirectError(ProcessBuilder.Redirect.INHERIT).start();
         process.getOutputStream().close();
         String out = new String(process.getInputStream().readAllBytes(), StandardCharsets.UTF_8);
         check(process.waitFor() == 0, command + " fails: " + out);
